@@ -1,1 +1,0 @@
-public final class SmokeTest { public static void main(String[] a) { ExcuseMarket x = Check.reader("coins 3;"); Check.due("coins", x.count(5), 3); Check.fault("man", 1, 3); Check.end("SmokeTest"); } }
