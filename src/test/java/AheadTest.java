@@ -37,6 +37,8 @@ public final class AheadTest {
         law("9999", 100);
         law("1 - 2", 0);
         law("((((((5))))))", 5);
+        law("1+1*(1+1*(1+1*(1+1*(1+1*(1+1*(1+1*1))))))", 8);
+        law("if 1+1*(1+1*(1+1*(1+1*(1+1*(1+1*(1+1*1)))))) < 1+1*(1+1*(1+1*(1+1*(1+1*(1+1*(1+1*2)))))) then 6 else 7", 6);
         law("if 1 < 2 then 3 else 4", 3);
         law("if 2 < 2 then 3 else 4", 4);
         law("if 3 < 2 then 3 else if 1 < 2 then 5 else 6", 5);
@@ -116,6 +118,11 @@ public final class AheadTest {
         Check.due("99 days ago", x.pass(0, 0), 99);
         x.undo();
         Check.due("60 days ago", x.pass(0, 0), 60);
+        x = Check.reader("man a 80 0;excuse e 1 99 3 7;duty d a 2 4;passes = ago;wears = 0;");
+        x.buy(0);
+        x.plan(0, 0);
+        x.days(7);
+        Check.due("told on day 2, asked on day 7", x.pass(0, 0), 5);
     }
 
     private static void heard() {
@@ -187,6 +194,11 @@ public final class AheadTest {
         x.days(1);
         Check.due("more", x.planned(2, 0), 1);
         Check.due("more", x.planned(2, 3), 12);
+        x.undo();
+        x.days(2);
+        Check.due("more hours", x.planned(1, 3), 7);
+        x.undo();
+        x.days(1);
         Check.due("on day 30", x.planned(29, 2), 1);
         Check.due("on day 30", x.planned(30, 2), 2);
         int[] wrong = {-1, 31, Integer.MAX_VALUE, Integer.MIN_VALUE};
@@ -299,6 +311,22 @@ public final class AheadTest {
         x.days(2);
         shop(x, 1, 41, 6, 1);
         shop(x, 1, 40, 0, 0);
+        // what was told ahead counts beside what the set tells
+        x = Check.reader("man a 50 0;excuse e 5 99 1 0;excuse f 6 99 1 0;duty da a 0 1;duty db a 1 1;duty dc a 2 1;duty dd a 3 1;"
+            + "passes = 60 - wear * 20;wears = 0;");
+        x.buy(0);
+        x.plan(0, 0);
+        x.days(1);
+        shop(x, 6, 20, 0, 0, 0);
+        shop(x, 6, 21, 6, 0, 1);
+        shop(x, 14, 20, 6, 0, 0, 1);
+        shop(x, 14, 0, 0, 0, 0, 0);
+        // of one day, by numbers: the second one is told when the first one was
+        x = Check.reader("man a 50 0;excuse e 5 99 1 0;duty da a 1 5;duty db a 1 9;passes = hours * 10 - wear * 20;wears = 0;");
+        shop(x, 3, 50, 5, 0, 0);
+        x = Check.reader("man a 50 0;excuse e 5 99 1 0;duty da a 1 9;duty db a 1 5;passes = hours * 10 - wear * 20;wears = 0;");
+        shop(x, 3, 50, -2, -2, -2);
+        shop(x, 3, 30, 5, 0, 0);
     }
 
     private static void cheapestOnce() {

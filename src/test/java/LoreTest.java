@@ -72,6 +72,13 @@ public final class LoreTest {
         x.undo();
         x.days(3);
         pairs("both free", x, 1);
+        x = Check.reader("man a 90 0;man b 90 0;knows b a;excuse e 1 99 1 1;excuse f 1 99 2 1;duty da b 1 1;duty db a 1 1;passes=100;");
+        x.buy(0);
+        x.buy(1);
+        x.plan(0, 0);
+        x.plan(1, 1);
+        x.days(2);
+        pairs("the other one's DUTY stands first", x, 1);
     }
 
     private static void rumour() {

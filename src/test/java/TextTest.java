@@ -14,6 +14,7 @@ public final class TextTest {
         firstFault();
         lastOneTold();
         goodTextBeginsAnew();
+        textsInTurn();
         Check.end("TextTest");
     }
 
@@ -80,6 +81,7 @@ public final class TextTest {
         Check.fault("man a 0009 0002;", 0, -1);
         Check.fault("man a 00009 2;", 1, 6);
         Check.fault("man a1 2;", 0, -1);
+        Check.fault("man zaz 1 2;knows zaz zaz;", 3, 22);
         Check.fault("mana 1 2;", 1, 0);
         Check.fault("rain1;coins2;seed3;passes=1+day*(2-wet)/3;", 0, -1);
         Check.fault("\t\r\n man\na\r1\t2 ; ", 0, -1);
@@ -169,6 +171,7 @@ public final class TextTest {
         Check.fault("wears = " + ifs + "if", 2, 8 + 84);
         Check.fault("passes = ((((((1))))));", 0, -1);
         Check.fault("passes = (((((((1)))))));", 2, 15);
+        Check.fault("passes = if ((((((1)))))) < ((((((2)))))) then ((((((3)))))) else ((((((4))))));", 0, -1);
         Check.fault("passes = (((((( (", 2, 16);
         Check.fault("passes = ((((((1 (", 1, 17);
         Check.fault("passes = " + many("(1)+", 9) + "((((((1)))))) * ((((((2))))));", 0, -1);
@@ -204,6 +207,7 @@ public final class TextTest {
         Check.fault("man a 1 1;man b 1 1;knows a b;knows b a;knows a b;", 0, -1);
         Check.fault("excuse e 1 1 1 1;test t e e;", 3, 26);
         Check.fault("excuse e 1 1 1 1;excuse f 1 1 1 1;test t e f e;", 3, 45);
+        Check.fault("excuse e 1 1 1 1;excuse f 1 1 1 1;test t f f;", 3, 43);
         Check.fault("excuse e 1 1 1 1;test t e;test s e;", 0, -1);
     }
 
@@ -294,5 +298,47 @@ public final class TextTest {
         x.plan(0, 0);
         int trust = x.trust(0, 1);
         Check.due("wears anew", trust == 30 || trust == 20, true);
+    }
+
+    /** Nothing of a text, sound or not, is left in those behind it. */
+    private static void textsInTurn() {
+        String full = "man a 50 2;man b 40 0;knows a b;excuse e 1 9 1 1;excuse f 1 9 1 1;duty d a 0 1;duty g b 0 1;test t e;test u f;"
+            + "passes = 100;wears = 3;rain 100;coins 9;seed 7;";
+        ExcuseMarket x = new ExcuseMarket();
+        for (int round = 0; round < 3; round++) {
+            Check.type(x, full);
+            Check.due("the full text", x.read(), 0);
+            Check.due("tests", x.count(3), 2);
+            Check.due("friends", x.man(0, 2), 2);
+            x.buy(0);
+            x.plan(0, 0);
+            x.days(1);
+            Check.due("free and done", x.count(8) * 10 + x.count(10), 12);
+            String spoilt = round == 0 ? "man a 50 2;man a 1 1;" : round == 1 ? full + "knows a b;knows b" : full + "man c 100 1;";
+            Check.type(x, spoilt);
+            Check.due("a spoilt text", x.read(), round == 0 ? 3 : round == 1 ? 1 : 5);
+            Check.due("stays", x.count(8) * 10 + x.count(10), 12);
+            Check.type(x, "man a 20 1;man b 30 0;");
+            Check.due("a small text", x.read(), 0);
+            int[] due = {2, 0, 0, 0, 0, 50, 0, 0, 0, 0, 0, 0, 0, 0, 0, 0};
+            for (int what = 0; what < due.length; what++) {
+                Check.due("small count " + what, x.count(what), due[what]);
+            }
+            Check.due("no friends", x.man(0, 2) + x.man(1, 2), 0);
+            Check.due("no rain", x.rains(0), 0);
+            Check.type(x, full + "man e 1 1;");
+            Check.due("a NAME of an EXCUSE", x.read(), 3);
+            Check.type(x, "man a 20 1;excuse e 1 9 1 1;duty d a 0 1;duty f a 0 1;rain 45;");
+            Check.due("another text", x.read(), 0);
+            Check.due("PASSES as not told", x.pass(0, 0), 50);
+            Check.due("over", x.count(8) + x.count(9) + x.count(10), 0);
+            // LOT 100 of seed 0 on day 0 is 40, that of seed 7 is 45
+            Check.due("SEED as not told", x.rains(0), 1);
+        }
+        String knows = "man a 1 1;man b 1 1;" + many("knows a b;", 8);
+        for (int round = 0; round < 4; round++) {
+            Check.type(x, knows);
+            Check.due("eight KNOWS each time", x.read(), 0);
+        }
     }
 }

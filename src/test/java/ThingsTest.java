@@ -117,6 +117,7 @@ public final class ThingsTest {
         Check.due("bits", x.excuse(1, 6), 9);
         Check.due("things done", x.count(12), 5);
         Check.due("taken back", x.plan(0, -1), true);
+        Check.due("no plan", x.duty(0, 3), -2);
         Check.due("none to take back", x.plan(0, -1), false);
         Check.due("bits", x.excuse(1, 6), 8);
         x.sell(1);
@@ -192,6 +193,13 @@ public final class ThingsTest {
         x.plan(0, 1);
         x.days(1);
         row("free by one more", duty(x, 0), 0, 0, 5, 1, 1);
+        for (int strong = 48; strong <= 49; strong++) {
+            x = Check.reader(men.replace("68", "" + strong) + "duty d a 0 5;duty g b 0 4;");
+            x.buy(0);
+            x.plan(1, 0);
+            x.days(1);
+            Check.due("the DUTY's number counts " + strong, x.duty(1, 4), strong == 48 ? 2 : 1);
+        }
         x = Check.reader(men.replace("68", "87").replace("69", "88") + "duty d a 3 5;");
         x.buy(0);
         x.buy(1);
