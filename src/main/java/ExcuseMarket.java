@@ -897,8 +897,10 @@ public final class ExcuseMarket {
 
         int answer(int[] seen) {
             int height = 0;
-            for (int i = 0; i < length; i++) {
-                int step = steps[i];
+            int at = 0;
+            for (int n = 0; n < length && at < length; n++) {
+                int step = steps[at];
+                at++;
                 if (step >= 0) {
                     if (height >= stack.length) {
                         return 0;
@@ -915,7 +917,7 @@ public final class ExcuseMarket {
                     int right = stack[height - 1];
                     if (step == UNLESS_LESS) {
                         height -= 2;
-                        i = left < right ? i + 1 : Math.max(i, hole(i + 1) - 1);
+                        at = left < right ? at + 1 : Math.max(at, landing(at));
                     } else if (step == -BY && right == 0) {
                         return 0;
                     } else {
@@ -927,8 +929,8 @@ public final class ExcuseMarket {
             return 0;
         }
 
-        private int hole(int i) {
-            return i < length ? steps[i] : length;
+        private int landing(int hole) {
+            return hole < length ? steps[hole] : length;
         }
 
         private static int valueOf(int[] seen, int variable) {

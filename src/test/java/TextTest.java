@@ -203,6 +203,10 @@ public final class TextTest {
         Check.fault("test a;test a;", 3, 12);
         Check.fault("man m 1 1;duty a m 1 1;excuse a 1 1 1 1;", 3, 30);
         Check.fault("man m 1 1;duty a m 1 1;duty a m 1 1;", 3, 28);
+        String all = many("man m? 1 1;", 5) + many("excuse e? 1 1 1 1;", 7) + many("duty d? ma 1 1;", 9) + many("test t?;", 5);
+        Check.fault(all + "test tf;", 0, -1);
+        Check.fault(all + "test te;", 3, all.length() + 5);
+        Check.fault(all + "test ma;", 3, all.length() + 5);
         Check.fault("man a 1 1;knows a a;", 3, 18);
         Check.fault("man a 1 1;man b 1 1;knows a b;knows b a;knows a b;", 0, -1);
         Check.fault("excuse e 1 1 1 1;test t e e;", 3, 26);
