@@ -64,8 +64,8 @@ final class Texts {
     }
 
     private String joined(List<String> tells) {
-        if (r.nextInt(8) == 0) {
-            java.util.Collections.swap(tells, r.nextInt(Math.max(1, tells.size())), 0);
+        if (r.nextInt(8) == 0 && !tells.isEmpty()) {
+            java.util.Collections.swap(tells, r.nextInt(tells.size()), 0);
         }
         StringBuilder text = new StringBuilder(r.nextInt(9) == 0 ? "\n " : "");
         for (String tell : tells) {
