@@ -112,6 +112,18 @@ final class CallSentences {
         Check.due("tape", x.count(11), 12);
         Check.due("read of the rest", x.read(), 0);
         Check.due("TRUST", x.man(0, 0), 12);
+        String[] longer = {"rain 12", "man ab", "rain 5;", "man abcdefghi", "seed 12345", "rain 101", "knows ab", "man a"};
+        for (String text : longer) {
+            Check.type(x, text);
+            Check.due("one byte", x.back(1), text.length() - 1);
+            Check.due("what went is not read: " + text, x.read(), 1);
+            Check.due("but the end: " + text, x.place(), text.length() - 1);
+        }
+        for (String end : new String[] {"rain 5", "man ab", "man abcdefgh", "seed 1234", "passes = 1 +"}) {
+            Check.type(x, " ".repeat(2000 - end.length()) + end);
+            Check.due("the end of a full tape: " + end, x.read(), 1);
+            Check.due("the end of a full tape: " + end, x.place(), 2000);
+        }
         x.feed(0, 0, 0, 0, 0);
         Check.due("all", x.back(20), 0);
         Check.due("none of none", x.back(0), 0);

@@ -415,6 +415,15 @@ final class TextSentences {
         x.days(1);
         Check.due("the last EXCUSE twice", x.told(6, 0, false), 2);
         Check.due("by its WEARS", x.man(0, 0), 47);
+        x = AheadSentences.owner("man x 50 0;man y 50 0;knows x y;" + many("excuse ? 1 9 1 1;", 6) + "excuse g 1 9 2 1;"
+            + "duty h x 0 4;duty i y 0 5;"
+            + "passes = 100;wears = 3 * heard + 1;", 5, 6);
+        x.plan(0, 5);
+        x.plan(1, 6);
+        x.days(1);
+        Check.due("the first to hear", x.man(0, 0), 49);
+        Check.due("the other one", x.man(1, 0), 46);
+        Check.due("TWO THINGS", x.two(0), 1);
     }
 
     private static void manyDuties() {
